@@ -676,7 +676,9 @@ public final class Preformtower {
         int contrastUnder(int clad) {
             int most = 0;
             for (int k = 0; k < layers && index[k] > clad; k++) {
-                most = Math.max(most, index[k] - clad);
+                if (index[k] - clad > most) {
+                    most = index[k] - clad;
+                }
             }
             return most;
         }

@@ -8,6 +8,8 @@ public final class AskedTest {
         wayIntoARing();
         wayToABreak();
         wayPastFaults();
+        wayRoundsDown();
+        wayOverAll();
         wayWrong();
         pulseAtSplices();
         pulseTellsWhatIsApart();
@@ -169,6 +171,31 @@ public final class AskedTest {
         wayIs(x, 2, 1, 0, 200 + 2, 101, 0, 1, 3, -1, 1, 0);
     }
 
+    private static void wayRoundsDown() {
+        // SCATTER 29: 29 * 1000 is just 29 times 1000, 29 * 931 is 1 less than 27 times 1000.
+        Preformtower x = GlassTest.withGlass();
+        x.proof(x.draw(0, 3000), 60);
+        x.cable(0, 1, 991);
+        x.cable(0, 1, 922);
+        x.lay(0, 0, 0);
+        x.lay(1, 1, 0);
+        wayIs(x, 0, 0, 0, 29, 1000, 0, 1, 2, 1, 0, 0);
+        wayIs(x, 0, 1, 0, 26, 931, 0, 1, 2, 1, 1, 0);
+    }
+
+    private static void wayOverAll() {
+        Preformtower x = RoomTest.full();
+        // Twenty fibres of 303, four BENDS in each, nineteen SPLICES, all 30 apart or more.
+        Check.due("17: how long", 6060, x.way(1, 0, 0, 1));
+        Check.due("17: SPLICES", 19, x.way(1, 0, 0, 2));
+        Check.due("17: fibres", 20, x.way(1, 0, 0, 3));
+        Check.due("17: from behind", 6060, x.way(1, 4, 3, 1));
+        Check.due("18: the last SPLICE", 1, x.pulse(1, 0, 0, 94, 0));
+        Check.due("18: the last EVENT", 2, x.pulse(1, 0, 0, 99, 0));
+        Check.due("18: how long", 6060, x.pulse(1, 0, 0, 99, 1));
+        Check.due("18: none behind it", -2, x.pulse(1, 0, 0, 100, 0));
+    }
+
     private static void wayWrong() {
         Preformtower x = withWay();
         Check.refuses(x, "17: CABLE 3", Check.INDEX, () -> x.way(0, 3, 0, 8));
@@ -295,6 +322,10 @@ public final class AskedTest {
         for (int what = 0; what <= 10; what++) {
             Check.due("20: many(" + what + ")", due[what], x.many(what));
         }
+        Preformtower y = GlassTest.withGlass();
+        y.draw(0, 700);
+        y.draw(0, 100);
+        Check.due("20: LENGTHS from the first REEL on", 800, y.many(4));
         Check.refuses(x, "20: what -1", Check.ARGUMENT, () -> x.many(-1));
         Check.refuses(x, "20: what 11", Check.ARGUMENT, () -> x.many(11));
     }

@@ -5,6 +5,7 @@ public final class CablesTest {
         cablesWrong();
         lays();
         layKeepsFlawsBehind();
+        layKeepsSixFlaws();
         layLosesTheRest();
         laysWrong();
         splices();
@@ -106,6 +107,19 @@ public final class CablesTest {
         Check.due("8: at their places from there on", 2, x.proof(2, 60));
         Check.due("8: 302 less 101", 201, x.ofReel(2, 1));
         Check.due("8: 1999 less 302", 1698, x.ofReel(3, 1));
+    }
+
+    private static void layKeepsSixFlaws() {
+        Preformtower x = withReels();
+        x.cable(0, 1, 100);
+        for (int k = 1; k <= 6; k++) {
+            x.flaw(0, 200 * k, 60 + k);
+        }
+        Check.due("8: the rest of six", 2, x.lay(0, 0, 0));
+        Check.due("8: all six are behind that place", 6, x.ofReel(2, 3));
+        Check.due("8: the first one among them", 61, x.ofReel(2, 7));
+        Check.due("8: its one piece before that is SCRAP", 1, x.proof(2, 62));
+        Check.due("8: 200 less 101", 99, x.ofReel(2, 1));
     }
 
     private static void layLosesTheRest() {
@@ -295,5 +309,8 @@ public final class CablesTest {
         Check.due("13: a JOINT is no BREAK any more", 0, x.mend(1));
         Check.due("13: JOINTS stay", 2, x.ofCable(1, 6));
         Check.due("13: another CABLE has its own", 1, x.mend(0));
+        x.bend(0, 70, 5);
+        x.mend(0);
+        Check.due("13: where the BEND was is room again", 2, x.bend(0, 70, 5));
     }
 }

@@ -69,6 +69,14 @@ public final class GlassTest {
         Check.due("3: RADIUS", 5, y.ofPreform(0, 1));
         Check.due("3: CONTRAST", 6, y.ofPreform(0, 2));
 
+        Preformtower v = new Preformtower();
+        v.preform();
+        for (int index : new int[] {10, 5, 20, 5}) {
+            v.soot(0, index, 5);
+        }
+        Check.due("3: what lies behind a LAYER as high as CLAD is no CORE: RADIUS", 5, v.ofPreform(0, 1));
+        Check.due("3: and CONTRAST", 5, v.ofPreform(0, 2));
+
         Preformtower z = new Preformtower();
         z.preform();
         z.soot(0, 11, 9);

@@ -19,7 +19,7 @@ public final class RoomTest {
     }
 
     /** All 20 REELS in CABLES, SPLICED to one long WAY, with all FAULTS. */
-    private static Preformtower full() {
+    static Preformtower full() {
         Preformtower x = new Preformtower();
         for (int k = 0; k < 6; k++) {
             x.preform();

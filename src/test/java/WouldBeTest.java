@@ -134,6 +134,10 @@ public final class WouldBeTest {
         y.proof(4, 20);
         Check.due("25: with something of all", dueDigest(y), y.digest());
         Check.due("25: again", dueDigest(y), y.digest());
+        Preformtower z = GlassTest.withGlass();
+        z.draw(0, 500);
+        z.draw(0, 998);
+        Check.due("25: pieces of 500", dueDigest(z), z.digest());
         Check.due("25: without fibres", dueDigest(GlassTest.withGlass()), GlassTest.withGlass().digest());
     }
 

@@ -16,7 +16,7 @@ public final class AskedTest {
         pulseWrong();
         decibels();
         many();
-        Check.end();
+        Check.end(14, 20);
     }
 
     /** The three cables of a ring, SPLICED at SITES 1 (LOSS 41) and 2 (LOSS 43), not at 0. */

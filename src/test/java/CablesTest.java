@@ -14,7 +14,7 @@ public final class CablesTest {
         digs();
         bends();
         mends();
-        Check.end();
+        Check.end(7, 13);
     }
 
     /** PREFORMS of 15 and 2 MODES; of each REELS of PROOF 60: 0 of 2000 of the one, 1 of 2000 of the other. */

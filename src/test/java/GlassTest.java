@@ -13,7 +13,7 @@ public final class GlassTest {
         proofKeepsTheBetterProof();
         proofWrong();
         proofWithTwentyReels();
-        Check.end();
+        Check.end(1, 6);
     }
 
     /** A PREFORM with 7200 of GLASS and 15 MODES. */

@@ -6,7 +6,7 @@ public final class WouldBeTest {
         single();
         locate();
         digest();
-        Check.end();
+        Check.end(21, 25);
     }
 
     private static void bestReel() {
@@ -141,7 +141,8 @@ public final class WouldBeTest {
         Check.due("25: without fibres", dueDigest(GlassTest.withGlass()), GlassTest.withGlass().digest());
     }
 
-    private static long dueDigest(Preformtower x) {
+    /** As the document says it, by asking. */
+    static long dueDigest(Preformtower x) {
         long d = 58253;
         for (int what = 0; what <= 10; what++) {
             d = d * 31 + x.many(what);
